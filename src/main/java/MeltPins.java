@@ -1024,7 +1024,7 @@ public final class MeltPins {
                         onWay[place] = 0;
                         moves = true;
                     }
-                } else if (((held | drowned) & bit) == 0 && walk(place, then)) {
+                } else if (((held | drowned) & bit) == 0 && walk(place, goes(place, then))) {
                     moves = true;
                 }
             }
@@ -1032,9 +1032,10 @@ public final class MeltPins {
             return moves;
         }
 
-        private boolean walk(int place, int then) {
+        /** One year of a place that is not over yet; whether anything is not as it was. */
+        private boolean walk(int place, boolean goes) {
             int was = onWay[place];
-            if (!goes(place, then)) {
+            if (!goes) {
                 onWay[place] = 0;
                 return was != 0;
             }

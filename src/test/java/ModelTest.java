@@ -30,8 +30,16 @@ public final class ModelTest {
     }
 
     private void run(long seed) throws Exception {
+        boolean dense = seed % 2 == 0 && mostPlaces < 12;
+        if (dense) {
+            dense();
+        }
         while (calls < CALLS) {
             int turn = random.nextInt(100);
+            if (dense && turn >= 8 && turn < 90) {
+                ask();
+                continue;
+            }
             if (turn < 4 || (calls < 60 && turn < 40)) {
                 feedText(text());
             } else if (turn < 6) {
@@ -39,6 +47,41 @@ public final class ModelTest {
             } else {
                 one();
             }
+        }
+    }
+
+    /** Low bars, many ties: most places hang on others, so that who is pushed or held tells. */
+    private void dense() throws Exception {
+        int size = 4 + random.nextInt(3);
+        for (int p = 0; p < size; p++) {
+            String name = PlainModel.NAMES.get(random.nextInt(3) == 0 ? random.nextInt(7) : 0);
+            feedText(name + " " + (2 + random.nextInt(9)) + " lower " + upTo(4) + " takes " + upTo(1) + " chance " + upTo(10));
+        }
+        for (int i = 0; i < size * 3; i++) both("tie", random.nextInt(size), random.nextInt(size), 1 + upTo(7));
+    }
+
+    /** A call that looks at many sets or years, or now and then one that changes the world a little. */
+    private void ask() throws Exception {
+        int size = model.size();
+        int set = size == 0 ? 0 : random.nextInt(1 << size);
+        switch (random.nextInt(17)) {
+            case 0: both("fewest", upTo(2)); break;
+            case 1: both("cheapest", upTo(2)); break;
+            case 2: both("most", upTo(size), upTo(1)); break;
+            case 3: both("order", fewPlaces(), upTo(5), upTo(1)); break;
+            case 4: both("stop", set, upTo(1)); break;
+            case 5: both("near", set); break;
+            case 6: both("edge", set, aPlace()); break;
+            case 7: both("likely"); break;
+            case 8: both("century", about(1, 50)); break;
+            case 9: if (size <= 6) both("game", 2, 0); if (size <= 6) both("game", 2, 1); break;
+            case 10: both("game", 1, upTo(1)); break;
+            case 11: layers(); break;
+            case 12: both("stand", set); both("late", set); break;
+            case 13: both("tie", aPlace(), aPlace(), 1 + upTo(9)); break;
+            case 14: both("hold", aPlace(), random.nextInt(4) == 0); break;
+            case 15: if (random.nextBoolean()) both("cut", aPlace(), aPlace()); else both("step", aPlace()); break;
+            default: change();
         }
     }
 

@@ -144,6 +144,11 @@ public final class PromisesTest {
         due(fault("Place 5"), -1);
         due(fault("places 5"), -1);
         due(fault("plac 5"), -1);
+        due(fault("ploce 5"), -1);
+        due(fault("slace 5"), -1);
+        due(fault("placez 5"), -1);
+        due(fault("aplace 5"), -1);
+        due(fault("place 5place 5"), -8);
         due(fault("place"), -6);
         due(fault("place  "), -8);
         due(fault("place;"), -6);
@@ -194,6 +199,10 @@ public final class PromisesTest {
     private static void tieTexts(MeltPins x) {
         due(read(x, "9 to 0 by 1"), -1);
         due(read(x, "0 by 1"), -3);
+        due(read(x, "0 zo 1 by 1"), -3);
+        due(read(x, "0 to by 1"), -6);
+        due(read(x, "0 to 1;"), -7);
+        due(read(x, "0 to 1 by by"), -11);
         due(read(x, "0 to"), -5);
         due(read(x, "0 to 0 by 1"), -6);
         due(read(x, "0 to 9 by 1"), -6);
@@ -502,6 +511,11 @@ public final class PromisesTest {
         x.cut(1, 2);
         x.change(2, 1, 9);
         due(x.run(9, 0), 3);
+        // Who is beside it without a TIE is no company.
+        x = of("place 9;place 9;company 5;1 to 2 by 9");
+        x.push(0, 0);
+        x.push(0, 1);
+        due(x.run(9, 0), 3);
         x = of("place 9;told 9;0 to 1 by 4;stay 4;0 to 2 by 4");
         x.push(0, 0);
         due(x.run(1, 0), 7);
@@ -566,6 +580,14 @@ public final class PromisesTest {
         x.clear();
         x.push(0, 0);
         due(x.run(9, 0), 3);
+        // As much as its LOWER is enough.
+        x = of("place 9;part 30 lower 5;back 30 lower 5;0 to 1 by 5;0 to 2 by 5");
+        for (int place = 0; place < 3; place++) x.push(0, place);
+        due(x.run(9, 0), 7);
+        x.tie(0, 1, 4);
+        due(x.run(9, 0), 5);
+        x.tie(0, 2, 4);
+        due(x.run(9, 0), 1);
     }
 
     static void promise16() {
@@ -590,6 +612,7 @@ public final class PromisesTest {
         due(x.runOf(9, 1, 0), 2);
         x.push(7, 2);
         due(x.runOf(8, 1, 1), 60);
+        due(x.runOf(99, 1, 1), 60);
         due(x.runOf(100, 0, 0), BEYOND);
         due(x.runOf(-1, 0, 0), BEYOND);
         due(x.runOf(0, 3, 0), BEYOND);
@@ -612,6 +635,12 @@ public final class PromisesTest {
         x.hold(1, true);
         due(x.runOf(4, 1, 0), 0);
         due(x.runOf(4, 1, 1), 5);
+        x = of("place 1 takes 9;drown 9;place 9;2 to 0 by 1");
+        x.change(1, 7, 0);
+        x.push(0, 2);
+        x.push(4, 1);
+        due(x.runOf(4, 0, 0), 4);
+        due(x.runOf(5, 0, 0), 0);
     }
 
     static void promise17() {
@@ -959,6 +988,11 @@ public final class PromisesTest {
         due(x.edge(1, 1), 4);
         due(x.placeOf(1, 1), 3);
         due(x.edge(1, 0), 99);
+        x.tie(0, 1, 1);
+        due(x.edge(1, 1), 1);
+        x.tie(0, 1, 99);
+        due(x.edge(1, 1), 99);
+        x.tie(0, 1, 4);
         due(x.edge(2, 1), NONE);
         due(x.edge(2, 0), NONE);
         due(x.edge(3, 1), 99);
@@ -1064,6 +1098,17 @@ public final class PromisesTest {
         x = of("place 9;place 9;place 2;0 to 2 by 1;1 to 2 by 1;place 9;place 9");
         due(x.game(2, 0), 2);
         due(x.game(2, 1), 0);
+        // All four of five are taken behind two turns each: the two pushed are over, and what the fifth gets tells.
+        x = of("place 9;place 9;place 9;place 9;place 1;0 to 4 by 1;1 to 4 by 1;2 to 4 by 1;3 to 4 by 1");
+        due(x.game(2, 0), 2);
+        due(x.game(2, 1), 0);
+        x.hold(4, true);
+        due(x.game(2, 0), 2);
+        // The other one can hold but two of three that come with 0, or with 4.
+        x = of("place 1;place 1;place 1;place 9;place 1;0 to 1 by 1;0 to 2 by 1;0 to 4 by 1;4 to 0 by 1");
+        due(x.game(1, 0), 3);
+        due(x.game(1, 1), 0);
+        due(x.game(2, 0), 3);
         // One alone is left for the one, none for the other.
         x = of("place 1");
         due(x.game(2, 0), 1);
@@ -1120,6 +1165,20 @@ public final class PromisesTest {
         due(x.first(0), 1);
         layers(x, 1, 10, 20, 30, 40, 50);
         due(x.first(0), NONE);
+        x = twelve();
+        x.sheet(0, 8, 12);
+        for (int i = 0; i < 12; i++) x.write(0, i, 1);
+        due(x.first(0), 4095);
+        x.write(0, 5, 0);
+        due(x.first(0), 4095 - 32);
+        x = of("place 1;place 1 takes 9;place 1 takes 9;place 1 takes 3;0 to 1 by 1;1 to 2 by 1;2 to 3 by 1");
+        x.sheet(0, 8, 4);
+        layers(x, 1, 10, 20, 24);
+        due(x.first(0), 1);
+        x.change(3, 3, 4);
+        due(x.first(0), NONE);
+        layers(x, 1, 10, 20, 0);
+        due(x.first(0), 1);
         x = new MeltPins();
         x.sheet(3, 8, 0);
         due(x.first(3), 0);
@@ -1153,6 +1212,21 @@ public final class PromisesTest {
         due(x.judge(0), 0);
         x.push(0, 1);
         due(x.judge(0), 1);
+        x.clear();
+        x.push(39, 1);
+        x.push(0, 0);
+        x.sheet(0, 8, 40);
+        for (int i = 0; i < 39; i++) due(x.write(0, i, i < 2 ? 1 : 2), 1);
+        due(x.judge(0), 40);
+        x.write(0, 39, 2);
+        due(x.judge(0), 0);
+        x.hold(1, true);
+        due(x.judge(0), 3);
+        for (int i = 0; i < 39; i++) x.write(0, i, 1);
+        due(x.judge(0), 40);
+        x.write(0, 39, 1);
+        due(x.judge(0), 0);
+        x.hold(1, false);
         x.clear();
         x.push(39, 1);
         x.sheet(0, 8, 40);
@@ -1336,6 +1410,7 @@ public final class PromisesTest {
         due(read(x, "place 5"), 3);
         x.feed(0x2020, 2);
         x.push(9, 2);
+        x.push(9, 1);
         due(x.undo(), 2);
         due(x.placeOf(0, 1), 7);
         due(x.placeOf(0, 7), -1);
