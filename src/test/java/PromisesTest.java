@@ -179,6 +179,15 @@ public final class PromisesTest {
         due(fault("place 5 price 0"), -15);
         due(fault("place 5 price 100"), -15);
         due(fault("place 5 chance 11"), -16);
+        // Tapes that are full to the last byte, with letters, digits, blanks; and one that is a text.
+        due(fault("a".repeat(120)), -1);
+        due(fault("place 5 " + "c".repeat(112)), -9);
+        due(fault("place " + "7".repeat(114)), -7);
+        due(fault("place 5" + " ".repeat(112) + ";"), -121);
+        MeltPins full = new MeltPins();
+        due(read(full, "place " + "0".repeat(113) + "7"), 1);
+        due(full.placeOf(0, 1), 7);
+        due(read(full, "place 5" + " ".repeat(113)), 2);
         MeltPins x = new MeltPins();
         due(read(x, "place 1;stay 2;back 3;company 4;drown 5;part 6;told 99 "), 7);
         for (int kind = 0; kind < 7; kind++) {
@@ -200,6 +209,8 @@ public final class PromisesTest {
         due(read(x, "9 to 0 by 1"), -1);
         due(read(x, "0 by 1"), -3);
         due(read(x, "0 zo 1 by 1"), -3);
+        due(read(x, "0"), -2);
+        due(read(x, "0;1"), -2);
         due(read(x, "0 to by 1"), -6);
         due(read(x, "0 to 1;"), -7);
         due(read(x, "0 to 1 by by"), -11);
@@ -1109,6 +1120,12 @@ public final class PromisesTest {
         due(x.game(1, 0), 3);
         due(x.game(1, 1), 0);
         due(x.game(2, 0), 3);
+        // 0 and 3 bring both 4 and 5: in one turn one of them is held, in two turns both.
+        x = of("place 9;place 9;place 9;place 9;place 9;place 9;3 to 4 by 9;3 to 5 by 9;0 to 4 by 9;0 to 5 by 9");
+        due(x.game(1, 0), 2);
+        due(x.game(1, 1), 0);
+        due(x.game(2, 0), 2);
+        due(x.game(2, 1), 0);
         // One alone is left for the one, none for the other.
         x = of("place 1");
         due(x.game(2, 0), 1);
