@@ -1,6 +1,3 @@
-import java.lang.reflect.Method;
-import java.util.ArrayList;
-import java.util.List;
 import java.util.Random;
 
 /** Runs of calls, drawn from fixed seeds, on MeltPins and on PlainModel: each answer has to be the same. */
@@ -8,11 +5,9 @@ public final class ModelTest {
     private static final int CALLS = 512;
 
     private final Random random;
-    private final MeltPins pins = new MeltPins();
-    private final PlainModel model = new PlainModel();
-    private final List<String> trail = new ArrayList<>();
+    private final Pair pair = new Pair();
+    private final PlainModel model = pair.model;
     private final int mostPlaces;
-    private int calls;
 
     private ModelTest(long seed, int mostPlaces) {
         random = new Random(seed);
@@ -34,13 +29,13 @@ public final class ModelTest {
         if (dense) {
             dense();
         }
-        while (calls < CALLS) {
+        while (pair.calls() < CALLS) {
             int turn = random.nextInt(100);
             if (dense && turn >= 8 && turn < 90) {
                 ask();
                 continue;
             }
-            if (turn < 4 || (calls < 60 && turn < 40)) {
+            if (turn < 4 || (pair.calls() < 60 && turn < 40)) {
                 feedText(text());
             } else if (turn < 6) {
                 layers();
@@ -85,30 +80,8 @@ public final class ModelTest {
         }
     }
 
-    /** One call on both; a difference ends the test. */
     private long both(String name, Object... args) throws Exception {
-        if (calls >= CALLS) {
-            return 0;
-        }
-        calls++;
-        long got = call(pins, name, args);
-        long due = call(model, name, args);
-        trail.add(name + List.of(args) + " = " + due);
-        if (got != due) {
-            trail.forEach(System.out::println);
-            System.out.println("MeltPins answered " + got + ", the model " + due);
-            System.exit(1);
-        }
-        return got;
-    }
-
-    private static long call(Object on, String name, Object[] args) throws Exception {
-        for (Method m : on.getClass().getMethods()) {
-            if (m.getName().equals(name) && m.getDeclaringClass() == on.getClass()) {
-                return ((Number) m.invoke(on, args)).longValue();
-            }
-        }
-        throw new IllegalStateException(name);
+        return pair.calls() < CALLS ? pair.both(name, args) : 0;
     }
 
     private int upTo(int n) {

@@ -171,6 +171,7 @@ public final class PlainModel {
         return had;
     }
 
+    @SuppressWarnings("serial")
     static class Fault extends Exception {
         final int at;
         Fault(int at) { super("at " + at); this.at = at; }

@@ -1,84 +1,15 @@
 import java.lang.reflect.Method;
 
 /** For each promise, by its number, what the document asks, worked out by hand. */
-public final class PromisesTest {
-    private static final int BEYOND = -1000001;
-    private static final int FULL = -1000002;
-    private static final int KIND = -1000003;
-    private static final int NONE = -1000004;
-    private static final int STATE = -1000005;
-    private static final int MISSING = -1000006;
-    private static final int SIZE = -1000007;
-    private static final int MAX = Integer.MAX_VALUE;
-    private static final int MIN = Integer.MIN_VALUE;
-
-    private static int wrong = 0;
-    private static int asked = 0;
-    private static String promise = "";
+public final class PromisesTest extends Check {
 
     public static void main(String[] args) throws Exception {
         for (int n = 1; n <= 45; n++) {
-            promise = "promise" + n;
-            Method m = PromisesTest.class.getDeclaredMethod(promise);
+            Method m = PromisesTest.class.getDeclaredMethod("promise" + n);
+            begin(m.getName());
             m.invoke(null);
         }
-        System.out.println(asked + " answers asked for 45 promises, " + wrong + " wrong");
-        if (wrong != 0) System.exit(1);
-    }
-
-    private static void due(long got, long want) {
-        asked++;
-        if (got != want) {
-            wrong++;
-            StackTraceElement at = new Throwable().getStackTrace()[1];
-            System.out.println(promise + ", line " + at.getLineNumber() + ": answered " + got + ", due is " + want);
-        }
-    }
-
-    /** Feeds a text and reads it. */
-    private static int read(MeltPins x, String text) {
-        for (int at = 0; at < text.length(); at += 4) {
-            int n = Math.min(4, text.length() - at);
-            int bytes = 0;
-            for (int i = 0; i < n; i++) bytes = bytes << 8 | text.charAt(at + i) & 255;
-            x.feed(bytes, n);
-        }
-        return x.world();
-    }
-
-    /** What a faulty text is answered on a new object, which stays without places. */
-    private static int fault(String text) {
-        MeltPins x = new MeltPins();
-        int got = read(x, text);
-        due(x.count(0), 0);
-        due(x.count(1), 0);
-        due(x.count(4), 0);
-        due(x.status(-1), 0);
-        return got;
-    }
-
-    private static MeltPins of(String... texts) {
-        MeltPins x = new MeltPins();
-        for (String text : texts) {
-            int places = x.count(0), ties = x.count(1);
-            int got = read(x, text);
-            if (got < 0 || x.count(0) + x.count(1) == places + ties) throw new IllegalStateException(text + ": " + got);
-        }
-        return x;
-    }
-
-    private static MeltPins twelve() {
-        return of("place 1;place 1;place 1;place 1;place 1;place 1", "place 1;place 1;place 1;place 1;place 1;place 1");
-    }
-
-    /** Each of the pairs of the first places tied, up to forty. */
-    private static MeltPins forty() {
-        MeltPins x = twelve();
-        for (int from = 0; from < 4; from++) {
-            int put = 0;
-            for (int to = 11; put < 10; to--) if (to != from) { x.tie(from, to, 5); put++; }
-        }
-        return x;
+        if (tell("45 promises") != 0) System.exit(1);
     }
 
     static void promise1() {
@@ -685,12 +616,6 @@ public final class PromisesTest {
         due(x.when(0), 1);
     }
 
-    /** Each takes ten years behind the one ahead. */
-    private static MeltPins chain() {
-        return of("place 1;place 1 takes 9;place 1 takes 9;0 to 1 by 1;1 to 2 by 1",
-            "place 1 takes 9;place 1 takes 9;place 1 takes 9;2 to 3 by 1;3 to 4 by 1;4 to 5 by 1");
-    }
-
     static void promise18() {
         MeltPins x = of("back 9 lower 1;place 1;drown 1 takes 4;0 to 1 by 1;1 to 2 by 1");
         due(x.settles(), 0);
@@ -716,11 +641,6 @@ public final class PromisesTest {
         due(x.run(99, 0), 5);
         due(x.settles(), 99);
         due(new MeltPins().settles(), 0);
-    }
-
-    /** Two of three are over, others each year, and again after three. */
-    private static MeltPins threeInTurn() {
-        return of("back 1 lower 1;back 1 lower 1;back 1 lower 1;0 to 1 by 1;1 to 2 by 1;2 to 0 by 1");
     }
 
     static void promise19() {
