@@ -269,12 +269,17 @@ final class ChanceSentences extends Check {
         due(x.status(-1), 0);
     }
 
-    @Says(promise = 34, words = {"BEYOND: no such sheet.", "MISSING."})
+    @Says(promise = 34, words = "BEYOND: no such sheet.")
     static void firstOfNoSheet() {
+        taken(() -> sheetsOf(2), (x, v) -> x.first(v), 0, 3);
         for (int s : new int[] {-1, 4, MIN, MAX}) {
             refused(Check::empty, x -> x.first(s), BEYOND);
             refused(Check::full, x -> x.first(s), BEYOND);
         }
+    }
+
+    @Says(promise = 34, words = "MISSING.")
+    static void firstOfAMissingSheet() {
         for (int s = 0; s <= 3; s++) {
             int one = s;
             refused(Check::empty, x -> x.first(one), MISSING);
@@ -365,12 +370,17 @@ final class ChanceSentences extends Check {
         due(x.status(-1), 0);
     }
 
-    @Says(promise = 35, words = {"BEYOND: no such sheet.", "MISSING."})
+    @Says(promise = 35, words = "BEYOND: no such sheet.")
     static void judgeOfNoSheet() {
+        taken(() -> sheetsOf(2), (x, v) -> x.judge(v), 0, 3);
         for (int s : new int[] {-1, 4, MIN, MAX}) {
             refused(Check::empty, x -> x.judge(s), BEYOND);
             refused(Check::full, x -> x.judge(s), BEYOND);
         }
+    }
+
+    @Says(promise = 35, words = "MISSING.")
+    static void judgeOfAMissingSheet() {
         for (int s = 0; s <= 3; s++) {
             int one = s;
             refused(Check::empty, x -> x.judge(one), MISSING);
